@@ -512,9 +512,6 @@ public final class HandleKernel {
         numberOf[object] = made;
         signalsOf[object] = 0;
         peerOf[object] = NONE;
-        processOf[object] = 0;
-        waiting[object] = 0;
-        packets[object] = 0;
         for (int cell = 0; cell < CELLS; cell++) {
             cells[object * CELLS + cell] = 0;
         }
@@ -572,6 +569,7 @@ public final class HandleKernel {
             endMetWatches();
         }
         waiting[object] = 0;
+        packets[object] = 0;
         kindOf[object] = FREE;
     }
 

@@ -18,6 +18,7 @@ public final class PromiseTest {
         promise2();
         promise2Full();
         promise2SlotsAreNew();
+        promise2AllSixteen();
         promise3();
         promise4();
         promise5();
@@ -25,6 +26,7 @@ public final class PromiseTest {
         promise7();
         promise7Tests();
         promise8();
+        promise8Rights();
         promise9();
         promise10();
         promise11();
@@ -208,6 +210,37 @@ public final class PromiseTest {
         due(x.receive(0, 1), EMPTY);
         due(x.info(0, 0, 5), 9);
         due(x.info(0, 1, 5), 8);
+    }
+
+    private static void promise2AllSixteen() {
+        Check.part("promise 2, the fifteenth and sixteenth object");
+        HandleKernel x = crowded(2);
+        due(x.make(0, CHANNEL), 16);
+        for (int v = 1; v <= 4; v++) {
+            due(x.send(0, 0, v, -1, -1), OK);
+        }
+        for (int v = 1; v <= 4; v++) {
+            due(x.receive(0, 1), 0);
+            due(x.got(0, 0), v);
+        }
+        due(x.receive(0, 1), EMPTY);
+        due(x.close(0, 0), OK);
+        due(x.close(0, 1), OK);
+        due(x.make(0, EVENT), 0);
+        due(x.make(0, PORT), 1);
+        due(x.signal(0, 0, 0, true), 1);
+        for (int key = 1; key <= 6; key++) {
+            due(x.watch(0, 0, 1, 1, key), OK);
+        }
+        for (int key = 1; key <= 6; key++) {
+            due(x.packet(0, 1, 0), key);
+        }
+        due(x.close(0, 0), OK);
+        due(x.close(0, 1), OK);
+        due(x.make(0, MEMORY), 0);
+        due(x.store(0, 0, 7, 4), OK);
+        due(x.twin(0, 0), 1);
+        due(x.load(0, 1, 7), 4);
     }
 
     private static void promise3() {
@@ -496,6 +529,25 @@ public final class PromiseTest {
         }
     }
 
+    private static void promise8Rights() {
+        Check.part("promise 8, the rights");
+        HandleKernel x = new HandleKernel();
+        x.make(0, CHANNEL);
+        x.make(0, EVENT);
+        for (int i = 0; i < 8; i += 2) {
+            due(x.copy(0, 2, SEND + i), 3);
+            due(x.copy(0, 2, SEND + i + 1), 4);
+            due(x.send(0, 0, i, 3, 4), OK);
+        }
+        for (int i = 0; i < 8; i += 2) {
+            due(x.receive(0, 1), 2);
+            due(x.info(0, 3, 2), SEND + i);
+            due(x.info(0, 4, 2), SEND + i + 1);
+            due(x.close(0, 3), OK);
+            due(x.close(0, 4), OK);
+        }
+    }
+
     private static void promise9() {
         Check.part("promise 9");
         HandleKernel x = new HandleKernel();
@@ -659,6 +711,21 @@ public final class PromiseTest {
         int made = x.info(0, -1, 3);
         due(x.twin(0, 0), NO_ROOM);
         due(x.info(0, -1, 3), made);
+        HandleKernel z = new HandleKernel();
+        for (int place = 0; place < 3; place++) {
+            due(z.make(0, MEMORY), place);
+            due(z.store(0, place, 0, 5 + place), OK);
+            due(z.store(0, place, 7, 50 + place), OK);
+        }
+        due(z.close(0, 1), OK);
+        due(z.twin(0, 2), 1);
+        for (int place = 0; place < 3; place++) {
+            due(z.load(0, place, 0), place == 0 ? 5 : 7);
+            due(z.load(0, place, 7), place == 0 ? 50 : 52);
+        }
+        due(z.close(0, 1), OK);
+        due(z.twin(0, 0), 1);
+        due(z.load(0, 2, 0), 7);
         HandleKernel y = crowded(1);
         due(y.make(0, MEMORY), 0);
         due(y.twin(0, 0), FULL);
@@ -821,6 +888,11 @@ public final class PromiseTest {
         due(x.info(0, -1, 2), 15);
         due(x.spawn(0, -1), BAD_VALUE);
         due(x.make(1, EVENT), 0);
+        HandleKernel y = new HandleKernel();
+        due(y.spawn(0, -1), 0);
+        due(y.kill(0, 0), OK);
+        due(y.spawn(0, -1), 1);
+        due(y.info(0, -1, 2), 5);
     }
 
     private static void promise15Refusals() {

@@ -22,6 +22,8 @@ public final class TermsTest {
         closedSignalIsWatched();
         processOutlivesItsObject();
         numbersAreForGood();
+        sixteenObjectsGoAtOnce();
+        twelveWatchesEndAtOnce();
         Check.end();
     }
 
@@ -388,5 +390,50 @@ public final class TermsTest {
         due(x.info(0, 0, 1), 0);
         due(x.info(0, -1, 3), 120);
         due(x.info(0, -1, 0), 1);
+    }
+
+    private static void sixteenObjectsGoAtOnce() {
+        Check.part("sixteen objects go at once");
+        HandleKernel x = new HandleKernel();
+        x.make(0, CHANNEL);
+        due(x.spawn(0, 1), 1);
+        due(x.send(0, 0, 1, 1, -1), OK);
+        due(x.receive(1, 0), 1);
+        due(x.make(1, CHANNEL), 16 * 3 + 2);
+        for (int i = 0; i < 4; i++) {
+            due(x.make(1, EVENT), 4);
+            due(x.make(1, EVENT), 5);
+            due(x.send(1, 2, 1, 4, 5), OK);
+        }
+        for (int place = 4; place < 7; place++) {
+            due(x.make(1, EVENT), place);
+        }
+        due(x.info(0, -1, 0), 16);
+        due(x.info(0, 0, 3), 0);
+        due(x.close(0, 0), OK);
+        due(x.info(0, -1, 0), 15);
+        due(x.make(1, EVENT), 7);
+        due(x.info(0, -1, 0), 16);
+        due(x.kill(1, 1), OK);
+        due(x.info(0, -1, 0), 0);
+        due(x.info(0, -1, 2), 1);
+        due(x.info(0, -1, 3), 17);
+    }
+
+    private static void twelveWatchesEndAtOnce() {
+        Check.part("twelve watches end at once");
+        HandleKernel x = new HandleKernel();
+        x.make(0, PORT);
+        x.make(0, PORT);
+        x.make(0, EVENT);
+        for (int key = 0; key < 12; key++) {
+            due(x.watch(0, 2, key % 2, 1, key), OK);
+        }
+        due(x.info(0, -1, 1), 12);
+        due(x.signal(0, 2, 0, true), 1);
+        due(x.info(0, -1, 1), 0);
+        for (int key = 0; key < 12; key++) {
+            due(x.packet(0, key % 2, 0), key);
+        }
     }
 }
