@@ -1,15 +1,5 @@
 /** Each promise of the document by itself: ordinary inputs, the edges that are named, and wrong inputs. */
-public final class PromiseTest {
-    private static final int OK = HandleKernel.OK, NO_PROCESS = HandleKernel.NO_PROCESS;
-    private static final int BAD_HANDLE = HandleKernel.BAD_HANDLE, WRONG_KIND = HandleKernel.WRONG_KIND;
-    private static final int NO_RIGHT = HandleKernel.NO_RIGHT, FULL = HandleKernel.FULL;
-    private static final int NO_ROOM = HandleKernel.NO_ROOM, CLOSED = HandleKernel.CLOSED;
-    private static final int EMPTY = HandleKernel.EMPTY, BAD_VALUE = HandleKernel.BAD_VALUE;
-    private static final int EVENT = 0, CHANNEL = 1, END = 1, MEMORY = 2, PORT = 3, PROCESS = 4;
-    private static final int READ = 1, WRITE = 2, COPY = 4, SEND = 8, WATCH = 16, MANAGE = 32, ALL = 63;
-    private static final int READABLE = 256, PEER_CLOSED = 512, DEAD = 1024;
-    private static final int LEAST = Integer.MIN_VALUE, MOST = Integer.MAX_VALUE;
-    private static final long LONG_REFUSAL = -10000000000L;
+public final class PromiseTest implements Names {
     private static final int[] NOT_RUNNING = {-1, 1, 2, 3, 4, LEAST, MOST};
     private static final int[] NO_HANDLES = {-1, -2, 9, 10, 11, LEAST, MOST};
 
@@ -42,29 +32,6 @@ public final class PromiseTest {
 
     private static void due(long got, long want) {
         Check.due(got, want);
-    }
-
-    /** Process 0 has no handles; process 1 has its places full, and holds all objects but for those that are left. */
-    private static HandleKernel crowded(int left) {
-        HandleKernel x = new HandleKernel();
-        x.spawn(0, -1);
-        x.close(0, 0);
-        x.make(1, CHANNEL);
-        for (int i = 0; i < 6 - left; i++) {
-            x.make(1, EVENT);
-            x.send(1, i < 4 ? 0 : 1, i, 2, -1);
-        }
-        for (int place = 2; place < 10; place++) {
-            x.make(1, EVENT);
-        }
-        return x;
-    }
-
-    /** Fills the places of process 0 with copies of the handle at place 0. */
-    private static void fillPlaces(HandleKernel x, int free) {
-        for (int place = 1; place < 10 - free; place++) {
-            x.copy(0, 0, ALL);
-        }
     }
 
     private static void promise1() {
@@ -132,7 +99,7 @@ public final class PromiseTest {
         due(x.info(0, -1, 3), 6);
         HandleKernel y = new HandleKernel();
         y.make(0, EVENT);
-        fillPlaces(y, 1);
+        Scenes.fillPlaces(y, 0, 1);
         due(y.make(0, CHANNEL), NO_ROOM);
         due(y.info(0, -1, 3), 1);
         due(y.make(0, PORT), 9);
@@ -146,7 +113,7 @@ public final class PromiseTest {
 
     private static void promise2Full() {
         Check.part("promise 2, FULL");
-        HandleKernel x = crowded(1);
+        HandleKernel x = Scenes.crowded(1);
         due(x.info(0, -1, 0), 15);
         due(x.make(0, CHANNEL), FULL);
         due(x.make(1, CHANNEL), FULL);
@@ -164,7 +131,7 @@ public final class PromiseTest {
         due(x.close(0, 0), OK);
         due(x.make(0, PORT), 0);
         due(x.info(0, 0, 1), made + 1);
-        HandleKernel y = crowded(2);
+        HandleKernel y = Scenes.crowded(2);
         due(y.info(0, -1, 0), 14);
         due(y.make(0, CHANNEL), 16);
         due(y.info(0, -1, 0), 16);
@@ -214,7 +181,7 @@ public final class PromiseTest {
 
     private static void promise2AllSixteen() {
         Check.part("promise 2, the fifteenth and sixteenth object");
-        HandleKernel x = crowded(2);
+        HandleKernel x = Scenes.crowded(2);
         due(x.make(0, CHANNEL), 16);
         for (int v = 1; v <= 4; v++) {
             due(x.send(0, 0, v, -1, -1), OK);
@@ -484,7 +451,7 @@ public final class PromiseTest {
         x.send(0, 0, 3, -1, 2);
         due(x.receive(0, 0), EMPTY);
         x.make(0, EVENT);
-        fillPlacesFrom(x, 2, 1);
+        Scenes.fillPlaces(x, 2, 1);
         due(x.receive(0, 1), NO_ROOM);
         due(x.got(0, 1), -1);
         due(x.info(0, 1, 3), READABLE);
@@ -516,16 +483,6 @@ public final class PromiseTest {
         }
         for (int process : NOT_RUNNING) {
             due(x.receive(process, 1), NO_PROCESS);
-        }
-    }
-
-    private static void fillPlacesFrom(HandleKernel x, int handle, int free) {
-        int used = 0;
-        for (int place = 0; place < 10; place++) {
-            used += x.info(0, place, 0) == BAD_HANDLE ? 0 : 1;
-        }
-        for (int i = used; i < 10 - free; i++) {
-            x.copy(0, handle, ALL);
         }
     }
 
@@ -706,7 +663,7 @@ public final class PromiseTest {
         for (int process : NOT_RUNNING) {
             due(x.twin(process, 0), NO_PROCESS);
         }
-        fillPlacesFrom(x, 0, 1);
+        Scenes.fillPlaces(x, 0, 1);
         due(x.twin(0, 0), 9);
         int made = x.info(0, -1, 3);
         due(x.twin(0, 0), NO_ROOM);
@@ -726,10 +683,10 @@ public final class PromiseTest {
         due(z.close(0, 1), OK);
         due(z.twin(0, 0), 1);
         due(z.load(0, 2, 0), 7);
-        HandleKernel y = crowded(1);
+        HandleKernel y = Scenes.crowded(1);
         due(y.make(0, MEMORY), 0);
         due(y.twin(0, 0), FULL);
-        fillPlaces(y, 0);
+        Scenes.fillPlaces(y, 0, 0);
         due(y.twin(0, 0), FULL);
         due(y.info(0, -1, 0), 16);
     }
@@ -913,8 +870,7 @@ public final class PromiseTest {
         due(x.spawn(0, 1), NO_RIGHT);
         due(x.info(0, -1, 2), 1);
         due(x.info(0, -1, 3), 2);
-        fillPlaces(x, 0);
-        fillPlacesFrom(x, 0, 0);
+        Scenes.fillPlaces(x, 0, 0);
         due(x.spawn(0, -1), NO_ROOM);
         due(x.info(0, -1, 2), 1);
         due(x.info(0, -1, 3), 2);
@@ -927,7 +883,7 @@ public final class PromiseTest {
         due(x.spawn(0, 7), BAD_VALUE);
         due(x.spawn(0, -1), BAD_VALUE);
         due(x.info(0, 7, 0), EVENT);
-        HandleKernel y = crowded(1);
+        HandleKernel y = Scenes.crowded(1);
         due(y.make(0, EVENT), 0);
         due(y.spawn(0, -1), FULL);
         due(y.spawn(0, 0), FULL);

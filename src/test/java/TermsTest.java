@@ -1,11 +1,5 @@
 /** The terms that all promises use: the order of destroying, of watches and of packets, and objects that live in messages. */
-public final class TermsTest {
-    private static final int OK = HandleKernel.OK, NO_RIGHT = HandleKernel.NO_RIGHT;
-    private static final int BAD_HANDLE = HandleKernel.BAD_HANDLE, EMPTY = HandleKernel.EMPTY;
-    private static final int EVENT = 0, CHANNEL = 1, MEMORY = 2, PORT = 3;
-    private static final int READ = 1, SEND = 8, ALL = 63;
-    private static final int READABLE = 256, PEER_CLOSED = 512, DEAD = 1024;
-
+public final class TermsTest implements Names {
     public static void main(String[] args) {
         handlesInMessagesKeepObjects();
         messagesGoWithTheirEnd();
