@@ -8,7 +8,9 @@ import java.nio.file.Path;
 import java.util.ArrayList;
 import java.util.Collections;
 import java.util.List;
+import java.util.Map;
 import java.util.Set;
+import java.util.TreeMap;
 import java.util.TreeSet;
 import java.util.regex.Matcher;
 import java.util.regex.Pattern;
@@ -132,6 +134,7 @@ public final class FaceTest {
         }
         Check.holds(!Pattern.compile("\\w\\([^();{}]*\\w\\(").matcher(calls(code)).find(), "a call stands inside the arguments of a call");
         methodLengths(code);
+        depths(code);
     }
 
     /** Takes away what looks like a call and is none. */
@@ -150,5 +153,45 @@ public final class FaceTest {
                 Check.holds(i - start < 60, "too long a method: " + lines[start]);
             }
         }
+    }
+
+    private static void depths(String code) {
+        Map<String, Set<String>> called = callGraph(code);
+        Check.holds(called.size() > METHODS.length, "the methods were not found");
+        for (String method : called.keySet()) {
+            int deep = depth(called, method, 1);
+            Check.holds(deep <= 6, "calls go " + deep + " deep, or in a circle, from " + method);
+        }
+    }
+
+    /** Each method, and the constructor, with the methods of the class that it calls. */
+    private static Map<String, Set<String>> callGraph(String code) {
+        Map<String, String> bodies = new TreeMap<>();
+        Matcher method = Pattern.compile("(?s)\n    (?:public|private) (?:\\w+ )?(\\w+)\\([^)]*\\) \\{(.*?)\n    \\}").matcher(code);
+        while (method.find()) {
+            bodies.put(method.group(1), method.group(2));
+        }
+        Map<String, Set<String>> called = new TreeMap<>();
+        for (String name : bodies.keySet()) {
+            Set<String> names = new TreeSet<>();
+            Matcher call = Pattern.compile("\\b(\\w+)\\(").matcher(bodies.get(name));
+            while (call.find()) {
+                names.add(call.group(1));
+            }
+            names.retainAll(bodies.keySet());
+            called.put(name, names);
+        }
+        return called;
+    }
+
+    /** A circle would go on for ever, so it is enough to know that a depth is too great. */
+    private static int depth(Map<String, Set<String>> called, String method, int above) {
+        int deepest = above;
+        if (above <= 6) {
+            for (String next : called.get(method)) {
+                deepest = Math.max(deepest, depth(called, next, above + 1));
+            }
+        }
+        return deepest;
     }
 }
